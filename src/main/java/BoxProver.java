@@ -15,17 +15,14 @@ public final class BoxProver {
 
     private final Rows rows;
     private final Log log;
-    /** Holds what was found out about the rows until they change. */
-    private final Search answers;
-    /** finish() looks at parts of the box alone: a search of its own leaves the answers as they are. */
-    private final Search openParts;
+    /** Keeps what it found until the rows change. */
+    private final Search search;
     private int known;
 
     public BoxProver() {
         rows = new Rows();
         log = new Log();
-        answers = new Search(rows);
-        openParts = new Search(rows);
+        search = new Search(rows);
         known = NOTHING_KNOWN;
     }
 
@@ -59,7 +56,7 @@ public final class BoxProver {
 
     public boolean decide() {
         learn(FIRST_KNOWN);
-        return answers.found() > 0;
+        return search.found() > 0;
     }
 
     public int first(int word) {
@@ -67,12 +64,12 @@ public final class BoxProver {
             return NO_VALUE;
         }
         learn(FIRST_KNOWN);
-        return answers.found() > 0 ? answers.firstValue(word) : NO_VALUE;
+        return search.found() > 0 ? search.firstValue(word) : NO_VALUE;
     }
 
     public int solutions() {
         learn(ALL_KNOWN);
-        return answers.found();
+        return search.found();
     }
 
     public int range(int word, boolean most) {
@@ -80,10 +77,10 @@ public final class BoxProver {
             return NO_VALUE;
         }
         learn(ALL_KNOWN);
-        if (answers.found() == 0) {
+        if (search.found() == 0) {
             return NO_VALUE;
         }
-        return most ? answers.greatestValue(word) : answers.leastValue(word);
+        return most ? search.greatestValue(word) : search.leastValue(word);
     }
 
     public int assume(int row, boolean turned) {
@@ -126,7 +123,10 @@ public final class BoxProver {
         if (log.isWhole()) {
             return NONE;
         }
-        if (someSolutionIsOpen()) {
+        // A closed case holds no solution, as each line holds for all solutions of its branch: so
+        // every solution of the rows is in what is open.
+        learn(FIRST_KNOWN);
+        if (search.found() > 0) {
             return 0;
         }
         log.closeAll();
@@ -175,30 +175,8 @@ public final class BoxProver {
         if (known >= wanted) {
             return;
         }
-        answers.takeWholeBox();
-        answers.look(wanted == FIRST_KNOWN);
+        search.look(wanted == FIRST_KNOWN);
         known = wanted;
-    }
-
-    /**
-     * Goes down the open splits from the outermost. The box is what the cases met so far leave: at a
-     * case one the case two is still to come, so that side is looked at before the box is cut.
-     */
-    private boolean someSolutionIsOpen() {
-        openParts.takeWholeBox();
-        for (int i = 0; i < log.splitCount(); i++) {
-            int word = log.splitCell(i, Log.SPLIT_WORD);
-            int k = log.splitCell(i, Log.SPLIT_AT);
-            if (log.splitCell(i, Log.SPLIT_CASE) == 2) {
-                openParts.keepAbove(word, k);
-            } else {
-                if (openParts.holdsAbove(word, k)) {
-                    return true;
-                }
-                openParts.keepUpTo(word, k);
-            }
-        }
-        return openParts.holds();
     }
 
     /** The rows and where each layer begins among them. */
@@ -298,10 +276,10 @@ public final class BoxProver {
     private static final class Log {
         static final int CELLS = 5;
         static final int SPLIT_CELLS = 4;
-        static final int SPLIT_WORD = 0;
-        static final int SPLIT_AT = 1;
-        static final int SPLIT_CASE = 2;
-        static final int SPLIT_BEFORE = 3;
+        private static final int SPLIT_WORD = 0;
+        private static final int SPLIT_AT = 1;
+        private static final int SPLIT_CASE = 2;
+        private static final int SPLIT_BEFORE = 3;
         private static final int LIMIT = 4;
         private static final int MOST_LINES = 200;
         private static final int MOST_SPLITS = 10;
@@ -488,22 +466,22 @@ public final class BoxProver {
     }
 
     /**
-     * A search for solutions in a box, word by word, the lesser values first. Each step is one that
-     * lines can make: a row and the bounds of the later words are added and divided with rounding,
-     * which bounds the next word; then its values are the cases.
+     * A search for solutions, word by word, the lesser values first. Each step is one that lines can
+     * make: a row and the bounds of the later words are added and divided with rounding, which bounds
+     * the next word; then its values are the cases.
      */
     private static final class Search {
-        private static final int ROWS = Rows.MOST_ROWS;
+        /** A row of kind 0 has two sides, it and it turned, so that a side is always "at most". */
+        private static final int SIDES = 2 * Rows.MOST_ROWS;
 
         private final Rows rows;
-        private final int[] low;
-        private final int[] high;
-        /** For depth d and row r at d * ROWS + r: the least sum that the words from d on can make. */
-        private final int[] leastRest;
-        private final int[] greatestRest;
-        /** For depth d and row r: the row's bound less the sum of the words before d. */
+        /** What belongs to word d and side s stands at d * SIDES + s, here and in the next two. */
+        private final int[] factor;
+        /** The words from d on make sums from -reach to reach. */
+        private final int[] reach;
+        /** The side's bound less the sum that the words before d make. */
         private final int[] left;
-        /** For depth d: the rows that don't yet hold whatever the words from d on are. */
+        /** From d * SIDES on, one behind the other: the sides that can still fail by the words from d on. */
         private final int[] pending;
         private final int[] pendingCount;
         private final int[] from;
@@ -512,17 +490,16 @@ public final class BoxProver {
         private final int[] firstFound;
         private final int[] leastFound;
         private final int[] greatestFound;
+        private int sides;
         private int found;
         private boolean oneIsEnough;
 
         Search(Rows rows) {
             this.rows = rows;
-            low = new int[WORDS];
-            high = new int[WORDS];
-            leastRest = new int[(WORDS + 1) * ROWS];
-            greatestRest = new int[(WORDS + 1) * ROWS];
-            left = new int[(WORDS + 1) * ROWS];
-            pending = new int[(WORDS + 1) * ROWS];
+            factor = new int[WORDS * SIDES];
+            reach = new int[(WORDS + 1) * SIDES];
+            left = new int[WORDS * SIDES];
+            pending = new int[(WORDS + 1) * SIDES];
             pendingCount = new int[WORDS + 1];
             from = new int[WORDS];
             to = new int[WORDS];
@@ -530,6 +507,7 @@ public final class BoxProver {
             firstFound = new int[WORDS];
             leastFound = new int[WORDS];
             greatestFound = new int[WORDS];
+            sides = 0;
             found = 0;
             oneIsEnough = false;
         }
@@ -550,68 +528,33 @@ public final class BoxProver {
             return greatestFound[word];
         }
 
-        void takeWholeBox() {
-            for (int w = 0; w < WORDS; w++) {
-                low[w] = -WORD_MOST;
-                high[w] = WORD_MOST;
-            }
-        }
-
-        void keepUpTo(int word, int k) {
-            high[word] = Math.min(high[word], k);
-        }
-
-        void keepAbove(int word, int k) {
-            low[word] = Math.max(low[word], k + 1);
-        }
-
-        boolean holds() {
-            look(true);
-            return found > 0;
-        }
-
-        boolean holdsAbove(int word, int k) {
-            int kept = low[word];
-            keepAbove(word, k);
-            boolean answer = holds();
-            low[word] = kept;
-            return answer;
-        }
-
         void look(boolean oneIsEnough) {
             this.oneIsEnough = oneIsEnough;
             found = 0;
-            // The sums below are those of a box that has values for each word.
-            if (boxIsEmpty()) {
-                return;
-            }
+            sides = 0;
             for (int r = 0; r < rows.size(); r++) {
-                prepareRow(r);
+                takeSide(r, 1);
+                if (rows.isEquality(r)) {
+                    takeSide(r, -1);
+                }
             }
-            pendingCount[0] = rows.size();
+            pendingCount[0] = sides;
             tryWord(0);
         }
 
-        private boolean boxIsEmpty() {
-            for (int w = 0; w < WORDS; w++) {
-                if (low[w] > high[w]) {
-                    return true;
-                }
+        private void takeSide(int row, int sign) {
+            if (sides >= SIDES) {
+                return;
             }
-            return false;
-        }
-
-        private void prepareRow(int r) {
-            leastRest[WORDS * ROWS + r] = 0;
-            greatestRest[WORDS * ROWS + r] = 0;
+            reach[WORDS * SIDES + sides] = 0;
             for (int w = WORDS - 1; w >= 0; w--) {
-                int atLow = rows.factor(r, w) * low[w];
-                int atHigh = rows.factor(r, w) * high[w];
-                leastRest[w * ROWS + r] = leastRest[(w + 1) * ROWS + r] + Math.min(atLow, atHigh);
-                greatestRest[w * ROWS + r] = greatestRest[(w + 1) * ROWS + r] + Math.max(atLow, atHigh);
+                int at = w * SIDES + sides;
+                factor[at] = sign * rows.factor(row, w);
+                reach[at] = reach[at + SIDES] + Math.abs(factor[at]) * WORD_MOST;
             }
-            left[r] = rows.limit(r);
-            pending[r] = r;
+            left[sides] = sign * rows.limit(row);
+            pending[sides] = sides;
+            sides++;
         }
 
         private void tryWord(int depth) {
@@ -622,7 +565,7 @@ public final class BoxProver {
             if (from[depth] > to[depth]) {
                 return;
             }
-            // The last word's bounds are exact, and with no row pending every value will do.
+            // The last word's bounds are exact, and with no side pending every value will do.
             if (depth == WORDS - 1 || pendingCount[depth + 1] == 0) {
                 noteSolutions(depth);
                 return;
@@ -637,65 +580,53 @@ public final class BoxProver {
             return oneIsEnough && found > 0;
         }
 
-        /** Bounds the word by the pending rows, and hands those on that stay pending. */
+        /** Bounds the word by the pending sides, and hands on those that can still fail. */
         private void narrow(int depth) {
-            from[depth] = low[depth];
-            to[depth] = high[depth];
+            from[depth] = -WORD_MOST;
+            to[depth] = WORD_MOST;
             int kept = 0;
-            for (int p = 0; p < pendingCount[depth]; p++) {
-                int r = pending[depth * ROWS + p];
-                if (!holdsAnyway(depth, r)) {
-                    narrowByRow(depth, r);
-                    pending[(depth + 1) * ROWS + kept] = r;
+            for (int p = 0; p < pendingCount[depth] && from[depth] <= to[depth]; p++) {
+                int side = pending[depth * SIDES + p];
+                int at = depth * SIDES + side;
+                if (reach[at] > left[at]) {
+                    keepAtMost(depth, factor[at], left[at] + reach[at + SIDES]);
+                    pending[(depth + 1) * SIDES + kept] = side;
                     kept++;
                 }
             }
             pendingCount[depth + 1] = kept;
         }
 
-        private boolean holdsAnyway(int depth, int r) {
-            int at = depth * ROWS + r;
-            if (greatestRest[at] > left[at]) {
-                return false;
-            }
-            return !rows.isEquality(r) || leastRest[at] == left[at];
-        }
-
-        private void narrowByRow(int depth, int r) {
-            int c = rows.factor(r, depth);
-            int bound = left[depth * ROWS + r];
-            int later = (depth + 1) * ROWS + r;
-            keepAtMost(depth, c, bound - leastRest[later]);
-            if (rows.isEquality(r)) {
-                keepAtMost(depth, -c, greatestRest[later] - bound);
-            }
-        }
-
         /** Keeps the values of which c times the value is at most the bound. */
         private void keepAtMost(int depth, int c, int bound) {
             if (c > 0) {
-                to[depth] = Math.min(to[depth], Math.floorDiv(bound, c));
+                if (c * to[depth] > bound) {
+                    to[depth] = Math.floorDiv(bound, c);
+                }
             } else if (c < 0) {
-                from[depth] = Math.max(from[depth], -Math.floorDiv(bound, -c));
+                if (c * from[depth] > bound) {
+                    from[depth] = -Math.floorDiv(bound, -c);
+                }
             } else if (bound < 0) {
-                to[depth] = low[depth] - 1;
+                to[depth] = -WORD_MOST - 1;
             }
         }
 
         private void setWord(int depth, int v) {
             value[depth] = v;
-            for (int p = 0; p < pendingCount[depth + 1]; p++) {
-                int r = pending[(depth + 1) * ROWS + p];
-                left[(depth + 1) * ROWS + r] = left[depth * ROWS + r] - rows.factor(r, depth) * v;
+            int many = pendingCount[depth + 1];
+            for (int p = 0; p < many; p++) {
+                int at = depth * SIDES + pending[(depth + 1) * SIDES + p];
+                left[at + SIDES] = left[at] - factor[at] * v;
             }
         }
 
-        /** All values that are kept for the word at this depth, with all of the box for later words. */
+        /** All values that are kept for the word at this depth, with all values of the later words. */
         private void noteSolutions(int depth) {
             int many = 1;
             for (int w = 0; w < WORDS; w++) {
-                int least = w < depth ? value[w] : w == depth ? from[w] : low[w];
-                int greatest = w < depth ? value[w] : w == depth ? to[w] : high[w];
+                int least = w < depth ? value[w] : w == depth ? from[w] : -WORD_MOST;
+                int greatest = w < depth ? value[w] : w == depth ? to[w] : WORD_MOST;
                 many *= greatest - least + 1;
                 if (found == 0) {
                     firstFound[w] = least;

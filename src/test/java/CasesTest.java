@@ -275,6 +275,12 @@ public final class CasesTest {
         Due.is("16: in a case two", x.finish(), 0);
         splitIs(x, 1, 1, -16, 2, 1);
         Due.is("17: lines stay", x.lines(), 2);
+
+        x = new BoxProver();
+        x.row(0, 99, 99, 99, 99, 5940);
+        x.split(3, 14);
+        Due.is("16: one solution alone", x.finish(), 0);
+        Due.is("20: splits stay", x.count(3), 1);
     }
 
     private static void finishWithout() {
@@ -315,6 +321,15 @@ public final class CasesTest {
         lineIs(x, 1, 0, 1, 0, 0, 15);
         Due.is("18: line(2, 0)", x.line(2, 0), Due.NO_LONG);
         Due.is("16: once more", x.finish(), BoxProver.NONE);
+
+        x = impossible();
+        x.bound(3, true);
+        x.split(0, 0);
+        x.bound(2, false);
+        Due.is("16: one split", x.finish(), 1);
+        Due.is("17: lines()", x.lines(), 1);
+        Due.is("20: splits", x.count(3), 0);
+        lineIs(x, 0, 0, 0, 0, -1, 15);
     }
 
     private static void finishWhenFull() {

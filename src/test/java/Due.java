@@ -2,7 +2,7 @@
 final class Due {
     static final long NO_INT = Integer.MIN_VALUE;
     static final long NO_LONG = Long.MIN_VALUE;
-    private static final long PATIENCE_MILLIS = 600_000;
+    private static final long PATIENCE_MILLIS = 300_000;
 
     private static int wrong = 0;
     private static int seen = 0;

@@ -1,4 +1,5 @@
 import java.util.ArrayList;
+import java.util.Arrays;
 import java.util.List;
 
 /** The document in its plainest form, every solution tried: what random runs are compared with. */
@@ -9,7 +10,7 @@ final class PlainModel {
     private final List<int[]> splits = new ArrayList<>();
     private boolean whole;
     private int closings;
-    private List<int[]> solutions;
+    private int[] solutions;
 
     private void changed() {
         lines.clear();
@@ -73,45 +74,58 @@ final class PlainModel {
         return true;
     }
 
-    /** In their order: the first solution is the first of the list. */
-    private List<int[]> all() {
+    /** The solutions in their order, each as one number, since there may be close to a million. */
+    private int[] all() {
         if (solutions == null) {
-            solutions = new ArrayList<>();
+            int[] held = new int[31 * 31 * 31 * 31];
+            int many = 0;
+            int code = 0;
             int[] x = new int[4];
             for (x[0] = -15; x[0] <= 15; x[0]++) {
                 for (x[1] = -15; x[1] <= 15; x[1]++) {
                     for (x[2] = -15; x[2] <= 15; x[2]++) {
                         for (x[3] = -15; x[3] <= 15; x[3]++) {
                             if (allHold(x)) {
-                                solutions.add(x.clone());
+                                held[many] = code;
+                                many++;
                             }
+                            code++;
                         }
                     }
                 }
             }
+            solutions = Arrays.copyOf(held, many);
         }
         return solutions;
     }
 
+    private static int valueIn(int code, int word) {
+        int digits = code;
+        for (int w = 3; w > word; w--) {
+            digits /= 31;
+        }
+        return digits % 31 - 15;
+    }
+
     boolean decide() {
-        return !all().isEmpty();
+        return all().length > 0;
     }
 
     int first(int word) {
-        return in(word, 0, 3) && decide() ? all().get(0)[word] : -100;
+        return in(word, 0, 3) && decide() ? valueIn(all()[0], word) : -100;
     }
 
     int solutions() {
-        return all().size();
+        return all().length;
     }
 
     int range(int word, boolean most) {
         if (!in(word, 0, 3) || !decide()) {
             return -100;
         }
-        int best = all().get(0)[word];
-        for (int[] x : all()) {
-            best = most ? Math.max(best, x[word]) : Math.min(best, x[word]);
+        int best = valueIn(all()[0], word);
+        for (int code : all()) {
+            best = most ? Math.max(best, valueIn(code, word)) : Math.min(best, valueIn(code, word));
         }
         return best;
     }
@@ -220,10 +234,10 @@ final class PlainModel {
         }
     }
 
-    /** Whether x is in the branch, or in a case two that is to come. */
-    private boolean isOpen(int[] x) {
+    /** Whether a solution is in the branch, or in a case two that is to come. */
+    private boolean isOpen(int code) {
         for (int[] s : splits) {
-            boolean inCaseOne = x[s[0]] <= s[1];
+            boolean inCaseOne = valueIn(code, s[0]) <= s[1];
             if (s[2] == 1 && !inCaseOne) {
                 return true;
             }
@@ -238,8 +252,8 @@ final class PlainModel {
         if (whole) {
             return -1;
         }
-        for (int[] x : all()) {
-            if (isOpen(x)) {
+        for (int code : all()) {
+            if (isOpen(code)) {
                 return 0;
             }
         }

@@ -2,7 +2,7 @@ import java.util.Random;
 
 /** All promises: runs of calls by a fixed seed, each answer and all that can be seen compared with the plain model. */
 public final class RandomRunsTest {
-    private static final int RUNS = 160;
+    private static final int RUNS = 75;
     private static final int CALLS = 500;
 
     private final Random random;
@@ -166,14 +166,13 @@ public final class RandomRunsTest {
     private void compareAnswers() {
         if (random.nextBoolean()) {
             Due.is(name + "decide()", x.decide(), m.decide());
-            for (int w = -1; w <= 4; w++) {
-                Due.is(name + "first(" + w + ")", x.first(w), m.first(w));
+            for (int v = -1; v <= 4; v++) {
+                Due.is(name + "first(" + v + ")", x.first(v), m.first(v));
             }
         }
-        for (int w = -1; w <= 4 && random.nextInt(5) != 0; w++) {
-            Due.is(name + "range(" + w + ", false)", x.range(w, false), m.range(w, false));
-            Due.is(name + "range(" + w + ", true)", x.range(w, true), m.range(w, true));
-        }
+        int w = anyWord();
+        Due.is(name + "range(" + w + ", false)", x.range(w, false), m.range(w, false));
+        Due.is(name + "range(" + w + ", true)", x.range(w, true), m.range(w, true));
         Due.is(name + "solutions()", x.solutions(), m.solutions());
         Due.is(name + "decide()", x.decide(), m.decide());
         Due.is(name + "first(3)", x.first(3), m.first(3));
@@ -188,7 +187,7 @@ public final class RandomRunsTest {
             int last = m.lines() - 1;
             Due.is(name + "line(" + last + ", " + what + ")", x.line(last, what), m.line(last, what));
         }
-        if (random.nextInt(20) == 0) {
+        if (random.nextInt(50) == 0) {
             compareAll();
         }
     }

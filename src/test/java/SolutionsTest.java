@@ -14,6 +14,7 @@ public final class SolutionsTest {
         boundsThatHoldOrMissByOne();
         parityAndDivisors();
         answersFollowTheRows();
+        sixteenRowsCount();
         askingChangesNothing();
         Due.end();
     }
@@ -162,6 +163,22 @@ public final class SolutionsTest {
         x.pop();
         rangeIs(x, 0, -15, 15);
         Due.is("8: none again", x.solutions(), 923521);
+    }
+
+    /** The last of sixteen rows of kind 0 decides, at its upper and at its lower side. */
+    private static void sixteenRowsCount() {
+        for (int sign = -1; sign <= 1; sign += 2) {
+            BoxProver x = new BoxProver();
+            for (int i = 1; i <= 15; i++) {
+                x.row(0, i, -i, 0, 0, 2 * i);
+            }
+            Due.is("8: fifteen rows", x.solutions(), 29 * 961);
+            x.row(0, 0, 0, sign, 3 * sign, 60);
+            Due.is("8: sixteen rows", x.solutions(), 29);
+            firstIs(x, -13, -15, 15 * sign, 15 * sign);
+            rangeIs(x, 0, -13, 15);
+            rangeIs(x, 2, 15 * sign, 15 * sign);
+        }
     }
 
     private static void askingChangesNothing() {
