@@ -532,7 +532,8 @@ public final class BoxProver {
             this.oneIsEnough = oneIsEnough;
             found = 0;
             sides = 0;
-            for (int r = 0; r < rows.size(); r++) {
+            int many = rows.size();
+            for (int r = 0; r < many; r++) {
                 takeSide(r, 1);
                 if (rows.isEquality(r)) {
                     takeSide(r, -1);
@@ -570,7 +571,9 @@ public final class BoxProver {
                 noteSolutions(depth);
                 return;
             }
-            for (int v = from[depth]; v <= to[depth] && !isEnough(); v++) {
+            // Deeper levels write into the same array: the loop's own bound can't be moved by them.
+            int last = to[depth];
+            for (int v = from[depth]; v <= last && !isEnough(); v++) {
                 setWord(depth, v);
                 tryWord(depth + 1);
             }
@@ -584,8 +587,9 @@ public final class BoxProver {
         private void narrow(int depth) {
             from[depth] = -WORD_MOST;
             to[depth] = WORD_MOST;
+            int many = pendingCount[depth];
             int kept = 0;
-            for (int p = 0; p < pendingCount[depth] && from[depth] <= to[depth]; p++) {
+            for (int p = 0; p < many && from[depth] <= to[depth]; p++) {
                 int side = pending[depth * SIDES + p];
                 int at = depth * SIDES + side;
                 if (reach[at] > left[at]) {
